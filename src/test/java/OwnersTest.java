@@ -116,6 +116,7 @@ public final class OwnersTest {
         check.due("add(0, -1)", x.add(0, -1), BAD);
         check.due("add(12, 5)", x.add(12, 5), BAD);
         check.due("add(-1, 5)", x.add(-1, 5), BAD);
+        check.due("remove(10), 11 is below it", x.remove(10), false);
         check.due("remove(11)", x.remove(11), true);
         check.due("add(11, 5)", x.add(11, 5), BAD);
         check.due("add(0, 5)", x.add(0, 5), 11);
