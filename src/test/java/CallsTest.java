@@ -125,6 +125,8 @@ public final class CallsTest {
         free.use(0, 1000, 0);
         free.release(0, 999, 1);
         again(free, made -> free.free(0, made == 3 ? 999 : 0));
+        Run nothing = begin("free of nothing again and again");
+        again(nothing, made -> nothing.free(0, 0));
         Run recover = begin("recover again and again");
         recover.reserve(0, 1000, 0);
         again(recover, made -> recover.recover(made == 1 ? 1 : 0));
@@ -134,6 +136,8 @@ public final class CallsTest {
         Run total = begin("total again and again");
         total.reserve(0, 7, 0);
         again(total, made -> total.total(0, 7));
+        Run empty = begin("total of nothing again and again");
+        again(empty, made -> empty.total(0, 0));
         Run room = begin("room again and again");
         room.reserve(0, 7, 0);
         again(room, made -> room.room(0, 993));
